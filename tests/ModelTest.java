@@ -16,7 +16,9 @@ public final class ModelTest {
     private final List<String> calls = new ArrayList<>();
     private final int[] kindOfDefinition = new int[8];
     private boolean isSame = true;
-    static long[] counts = new long[40];
+    // How often runs ended each way, and, from 10 on, how often each pass changed something.
+    private static final int REFUSED_PASS = 20;
+    private static final int[] COUNTS = new int[21];
 
     private ModelTest(int seed) {
         this.seed = seed;
@@ -47,13 +49,28 @@ public final class ModelTest {
             System.out.println(String.join("\n", calls));
             Check.same("seed " + seed + ": " + text(call, a), got, want);
         }
-        if (call == 21 || call == 22) {
-            counts[want.startsWith("throws") ? 6 : Integer.parseInt(want)]++;
-        }
-        if (call == 14) {
-            counts[want.startsWith("throws") ? 7 : want.equals("0") ? 8 : 10 + (int) a[0]]++;
-        }
+        count(call, a, want);
         return want.startsWith("throws") ? -1 : (int) Long.parseLong(want);
+    }
+
+    private static void count(int call, long[] a, String want) {
+        boolean isPass = call == 14;
+        if (isPass && want.equals(Check.STATE)) {
+            COUNTS[REFUSED_PASS]++;
+        } else if (want.startsWith("throws")) {
+            return;
+        } else if (call == 21 || call == 22) {
+            COUNTS[Integer.parseInt(want)]++;
+        } else if (isPass && !want.equals("0")) {
+            COUNTS[10 + (int) a[0]]++;
+        }
+    }
+
+    private static void judgeCounts() {
+        for (int i = 0; i < COUNTS.length; i++) {
+            boolean isCounted = i < 6 || i >= 10 && i < 17 || i == REFUSED_PASS;
+            Check.same("case " + i + " comes often enough", !isCounted || COUNTS[i] > 50, true);
+        }
     }
 
     private long callHall(int call, long[] x) {
@@ -222,8 +239,33 @@ public final class ModelTest {
             int first = term(N, half, scope);
             return both(6, chance(5), first, term(N, half, scope));
         }
+        if (chance(3) == 0) {
+            return chain(scope);
+        }
+        if (chance(2) == 0) {
+            return spine(fuel, scope);
+        }
         int function = term(F, half, scope);
         return both(4, function, term(N, half, scope));
+    }
+
+    /** A global of a global of a global: what the rules look for. */
+    private int chain(int[] scope) {
+        int node = leaf(N, scope);
+        for (int i = 1 + chance(4); i > 0; i--) {
+            node = both(4, both(2, chance(3)), node);
+        }
+        return node;
+    }
+
+    /** A global with some arguments, too few or too many of them, too. */
+    private int spine(int fuel, int[] scope) {
+        int count = 1 + chance(5);
+        int node = both(2, chance(8));
+        for (int i = 0; i < count; i++) {
+            node = both(4, node, chance(2) == 0 ? leaf(N, scope) : term(N, fuel / (count + 1), scope));
+        }
+        return node;
     }
 
     /** A function of a number or a list that calls itself and stops with it. */
@@ -329,8 +371,8 @@ public final class ModelTest {
         for (int i = 0; i < 8; i++) {
             define(i);
         }
-        for (int i = chance(6); i > 0; i--) {
-            both(13, chance(3), chance(8), chance(8), chance(8));
+        for (int i = chance(12); i > 0; i--) {
+            both(13, chance(2), chance(3), chance(3), chance(8));
         }
         while (calls.size() < 440 && isSame) {
             int definition = chance(8);
@@ -376,7 +418,7 @@ public final class ModelTest {
     }
 
     private static void all() {
-        for (int seed = 1; seed <= 6000; seed++) {
+        for (int seed = 1; seed <= 10000; seed++) {
             ModelTest test = new ModelTest(seed);
             if (seed % 4 == 0) {
                 test.wild();
@@ -385,6 +427,7 @@ public final class ModelTest {
             }
             Check.same("seed " + seed, test.isSame, true);
         }
+        judgeCounts();
         Check.end("ModelTest");
     }
 

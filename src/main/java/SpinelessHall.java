@@ -42,31 +42,30 @@ public final class SpinelessHall {
     // ---- nodes; each returns its number
 
     public int number(long number) throws IllegalStateException {
-        refuseNode(1);
-        return nodes.add(A_NUMBER, 0, 0, number);
+        return makeNode(A_NUMBER, NONE, NONE, number, NONE, NONE, NONE);
     }
 
     public int variable(int name) throws IllegalArgumentException, IllegalStateException {
         refuseOutside(name, NAMES);
-        return makeNode(A_VARIABLE, name, 0, NONE, NONE, NONE);
+        return makeNode(A_VARIABLE, name, NONE, 0, NONE, NONE, NONE);
     }
 
     public int global(int definition) throws IllegalArgumentException, IllegalStateException {
         refuseOutside(definition, DEFINITIONS);
-        return makeNode(A_GLOBAL, definition, 0, NONE, NONE, NONE);
+        return makeNode(A_GLOBAL, NONE, NONE, definition, NONE, NONE, NONE);
     }
 
     public int lambda(int name, int body)
             throws IndexOutOfBoundsException, IllegalArgumentException, IllegalStateException {
         refuseUnmade(body);
         refuseOutside(name, NAMES);
-        return makeNode(A_LAMBDA, name, 0, body, NONE, NONE);
+        return makeNode(A_LAMBDA, name, NONE, 0, body, NONE, NONE);
     }
 
     public int apply(int function, int argument) throws IndexOutOfBoundsException, IllegalStateException {
         refuseUnmade(function);
         refuseUnmade(argument);
-        return makeNode(AN_APPLY, 0, 0, function, argument, NONE);
+        return makeNode(AN_APPLY, NONE, NONE, 0, function, argument, NONE);
     }
 
     public int let(int name, int value, int body, boolean isRecursive)
@@ -74,7 +73,7 @@ public final class SpinelessHall {
         refuseUnmade(value);
         refuseUnmade(body);
         refuseOutside(name, NAMES);
-        return makeNode(isRecursive ? A_LETREC : A_LET, name, 0, value, body, NONE);
+        return makeNode(isRecursive ? A_LETREC : A_LET, name, NONE, 0, value, body, NONE);
     }
 
     public int primitive(int sign, int first, int second)
@@ -82,17 +81,17 @@ public final class SpinelessHall {
         refuseUnmade(first);
         refuseUnmade(second);
         refuseOutside(sign, SIGNS);
-        return makeNode(A_PRIMITIVE, sign, 0, first, second, NONE);
+        return makeNode(A_PRIMITIVE, NONE, NONE, sign, first, second, NONE);
     }
 
     public int nil() throws IllegalStateException {
-        return makeNode(A_NIL, 0, 0, NONE, NONE, NONE);
+        return makeNode(A_NIL, NONE, NONE, 0, NONE, NONE, NONE);
     }
 
     public int cons(int head, int tail) throws IndexOutOfBoundsException, IllegalStateException {
         refuseUnmade(head);
         refuseUnmade(tail);
-        return makeNode(A_CONS, 0, 0, head, tail, NONE);
+        return makeNode(A_CONS, NONE, NONE, 0, head, tail, NONE);
     }
 
     public int match(int list, int ifNil, int names, int ifCons)
@@ -106,21 +105,21 @@ public final class SpinelessHall {
         if (head == tail) {
             throw new IllegalArgumentException("the names for the head and the tail are alike");
         }
-        return makeNode(A_MATCH, head, tail, list, ifNil, ifCons);
+        return makeNode(A_MATCH, head, tail, 0, list, ifNil, ifCons);
     }
 
     public int test(int number, int ifSo, int ifNot) throws IndexOutOfBoundsException, IllegalStateException {
         refuseUnmade(number);
         refuseUnmade(ifSo);
         refuseUnmade(ifNot);
-        return makeNode(A_TEST, 0, 0, number, ifSo, ifNot);
+        return makeNode(A_TEST, NONE, NONE, 0, number, ifSo, ifNot);
     }
 
     public int centre(int centre, int node)
             throws IndexOutOfBoundsException, IllegalArgumentException, IllegalStateException {
         refuseUnmade(node);
         refuseOutside(centre, CENTRES);
-        return makeNode(A_CENTRE, centre, 0, node, NONE, NONE);
+        return makeNode(A_CENTRE, NONE, NONE, centre, node, NONE, NONE);
     }
 
     // ---- definitions, passes
@@ -152,11 +151,16 @@ public final class SpinelessHall {
 
     public int pass(int pass) throws IllegalArgumentException, IllegalStateException {
         refuseOutside(pass, PASSES);
-        int changed = passes.perform(pass);
-        if (changed == NONE) {
-            throw new IllegalStateException("a node would be too large");
+        passes.begin();
+        if (pass == STRICT) {
+            demand.find();
         }
-        return changed;
+        for (int definition = 0; definition < DEFINITIONS; definition++) {
+            if (!passes.goThrough(definition, pass)) {
+                throw new IllegalStateException("a node would be too large");
+            }
+        }
+        return passes.finish();
     }
 
     public int reset() {
@@ -260,12 +264,6 @@ public final class SpinelessHall {
         }
     }
 
-    private void refuseNode(int weight) {
-        if (nodes.count >= MOST_NODES || weight > MOST_WEIGHT) {
-            throw new IllegalStateException("there are too many nodes, or the node would be too heavy");
-        }
-    }
-
     private void refuseNoResult() {
         int outcome = machine.outcome;
         if (outcome != NUMBER && outcome != FUNCTION && outcome != LIST) {
@@ -287,9 +285,13 @@ public final class SpinelessHall {
 
     // ---- helpers
 
-    private int makeNode(int kind, int left, int right, int first, int second, int third) {
-        refuseNode(1 + nodes.weightOf(first) + nodes.weightOf(second) + nodes.weightOf(third));
-        return nodes.addWithParts(kind, left, right, first, second, third);
+    private int makeNode(int kind, int name, int tailName, long number, int first, int second, int third) {
+        int weight = 1 + nodes.weightOf(first) + nodes.weightOf(second) + nodes.weightOf(third);
+        if (nodes.count >= MOST_NODES || weight > MOST_WEIGHT) {
+            throw new IllegalStateException("there are too many nodes, or the node would be too heavy");
+        }
+        nodes.addParts(first, second, third);
+        return nodes.add(kind, name, tailName, number, weight);
     }
 
     private boolean isDefined(int definition) {
@@ -339,46 +341,47 @@ public final class SpinelessHall {
      * Trees in rows: each node stands ahead of its parts, and its first part right behind it. Variables
      * are told by numbers, and no two nodes of a tree bind the same one, so trees can be moved freely.
      */
-    private static final class Code {
+    private static class Code {
         private final int[] kinds;
-        // The variable, the definition, the sign, or the centre; of a MATCH the variable of the head.
-        private final int[] lefts;
+        // The variable that a node is, or that it binds; of a MATCH that of the head.
+        private final int[] names;
         // Of a MATCH the variable of the tail.
-        private final int[] rights;
+        private final int[] tailNames;
+        // The number, the definition, the sign, or the centre.
         private final long[] numbers;
         private final int[] sizes;
 
         Code(int length) {
             int room = length < 0 ? 0 : length;
             kinds = new int[room];
-            lefts = new int[room];
-            rights = new int[room];
+            names = new int[room];
+            tailNames = new int[room];
             numbers = new long[room];
             sizes = new int[room];
         }
 
         int kindAt(int node) {
-            return read(kinds, node);
+            return node >= 0 && node < kinds.length ? kinds[node] : 0;
         }
 
-        int leftAt(int node) {
-            return read(lefts, node);
+        int nameAt(int node) {
+            return node >= 0 && node < names.length ? names[node] : NONE;
         }
 
-        int rightAt(int node) {
-            return read(rights, node);
+        int tailNameAt(int node) {
+            return node >= 0 && node < tailNames.length ? tailNames[node] : NONE;
         }
 
         long numberAt(int node) {
-            return readLong(numbers, node);
+            return node >= 0 && node < numbers.length ? numbers[node] : 0;
         }
 
         int sizeAt(int node) {
-            return read(sizes, node);
+            return node >= 0 && node < sizes.length ? sizes[node] : 0;
         }
 
         int endOf(int node) {
-            return node + sizeAt(node);
+            return node >= 0 && node < sizes.length ? node + sizes[node] : node;
         }
 
         int first(int node) {
@@ -386,11 +389,11 @@ public final class SpinelessHall {
         }
 
         int second(int node) {
-            return endOf(first(node));
+            return endOf(node + 1);
         }
 
         int third(int node) {
-            return endOf(second(node));
+            return endOf(endOf(node + 1));
         }
 
         boolean isLet(int node) {
@@ -399,32 +402,31 @@ public final class SpinelessHall {
         }
 
         boolean isBinder(int node) {
-            int kind = kindAt(node);
-            return kind == A_LAMBDA || kind == A_MATCH || isLet(node);
+            return nameAt(node) != NONE && kindAt(node) != A_VARIABLE;
         }
 
-        boolean binds(int node, int variable) {
-            return isBinder(node) && (leftAt(node) == variable
-                    || kindAt(node) == A_MATCH && rightAt(node) == variable);
-        }
-
-        void put(int node, int kind, int left, int right, long number) {
-            write(kinds, node, kind);
-            write(lefts, node, left);
-            write(rights, node, right);
-            writeLong(numbers, node, number);
-            write(sizes, node, 1);
+        /** Puts a node without parts; one with parts is measured when these have been put, too. */
+        void put(int node, int kind, int name, int tailName, long number) {
+            boolean hasRoom = node >= 0 && node < kinds.length && node < names.length
+                    && node < tailNames.length && node < numbers.length && node < sizes.length;
+            if (hasRoom) {
+                kinds[node] = kind;
+                names[node] = name;
+                tailNames[node] = tailName;
+                numbers[node] = number;
+                sizes[node] = 1;
+            }
         }
 
         void take(int node, Code from, int source) {
-            put(node, from.kindAt(source), from.leftAt(source), from.rightAt(source), from.numberAt(source));
-            write(sizes, node, from.sizeAt(source));
+            put(node, from.kindAt(source), from.nameAt(source), from.tailNameAt(source), from.numberAt(source));
         }
 
-        void takeTree(int node, Code from, int source) {
+        void takeTree(int root, Code from, int source) {
             int size = from.sizeAt(source);
             for (int i = 0; i < size; i++) {
-                take(node + i, from, source + i);
+                take(root + i, from, source + i);
+                write(sizes, root + i, from.sizeAt(source + i));
             }
         }
 
@@ -444,11 +446,22 @@ public final class SpinelessHall {
             }
         }
 
+        void rename(int from, int end, int name, int fresh) {
+            for (int node = from; node < end; node++) {
+                if (nameAt(node) == name) {
+                    write(names, node, fresh);
+                }
+                if (tailNameAt(node) == name) {
+                    write(tailNames, node, fresh);
+                }
+            }
+        }
+
         int occurrences(int variable, int root) {
             int end = endOf(root);
             int count = 0;
             for (int node = root; node < end; node++) {
-                if (kindAt(node) == A_VARIABLE && leftAt(node) == variable) {
+                if (kindAt(node) == A_VARIABLE && nameAt(node) == variable) {
                     count++;
                 }
             }
@@ -475,35 +488,27 @@ public final class SpinelessHall {
             return false;
         }
 
-        /** Returns which node of a tree binds a variable, NONE if it is bound outside. */
-        int binderOf(int variable, int root) {
-            int end = endOf(root);
-            for (int node = root; node < end; node++) {
-                if (binds(node, variable)) {
-                    return node;
-                }
-            }
-            return NONE;
-        }
-
         /** Takes a tree and numbers its variables in the order in which they are bound. */
         void takeInOrder(int root, Code from, int source) {
             takeTree(root, from, source);
-            int size = from.sizeAt(source);
-            for (int i = 0; i < size; i++) {
-                if (from.isBinder(source + i)) {
-                    int order = from.boundAhead(source + i, source);
-                    write(lefts, root + i, order);
-                    write(rights, root + i, from.kindAt(source + i) == A_MATCH ? order + 1 : 0);
+            int end = from.endOf(source);
+            for (int node = source; node < end; node++) {
+                if (from.isBinder(node)) {
+                    int order = from.boundAhead(node, source);
+                    takeOrder(root, from, source, from.nameAt(node), order);
+                    takeOrder(root, from, source, from.tailNameAt(node), order + 1);
                 }
             }
+        }
+
+        private void takeOrder(int root, Code from, int source, int name, int order) {
+            int size = name == NONE ? 0 : from.sizeAt(source);
             for (int i = 0; i < size; i++) {
-                if (from.kindAt(source + i) == A_VARIABLE) {
-                    int variable = from.leftAt(source + i);
-                    int binder = from.binderOf(variable, source);
-                    int binderHere = binder - source + root;
-                    boolean isLeft = from.leftAt(binder) == variable;
-                    write(lefts, root + i, isLeft ? leftAt(binderHere) : rightAt(binderHere));
+                if (from.nameAt(source + i) == name) {
+                    write(names, root + i, order);
+                }
+                if (from.tailNameAt(source + i) == name) {
+                    write(tailNames, root + i, order);
                 }
             }
         }
@@ -549,10 +554,10 @@ public final class SpinelessHall {
             for (int node = root; node < end; node++) {
                 int kind = kindAt(node);
                 print = 31 * print + kind;
-                if (kind == A_NUMBER) {
+                if (kind == A_VARIABLE) {
+                    print = 31 * print + nameAt(node);
+                } else if (kind == A_NUMBER || kind == A_GLOBAL || kind == A_PRIMITIVE || kind == A_CENTRE) {
                     print = 31 * print + numberAt(node);
-                } else if (kind == A_VARIABLE || kind == A_GLOBAL || kind == A_PRIMITIVE || kind == A_CENTRE) {
-                    print = 31 * print + leftAt(node);
                 }
             }
             return print;
@@ -574,19 +579,18 @@ public final class SpinelessHall {
             return read(parts, 3 * node + which);
         }
 
-        int add(int kind, int left, int right, long number) {
-            int node = count;
-            row.put(node, kind, left, right, number);
-            count++;
-            return node;
+        /** Of the node that is added next. */
+        void addParts(int first, int second, int third) {
+            write(parts, 3 * count, first);
+            write(parts, 3 * count + 1, second);
+            write(parts, 3 * count + 2, third);
         }
 
-        int addWithParts(int kind, int left, int right, int first, int second, int third) {
-            int node = add(kind, left, right, 0);
-            write(row.sizes, node, 1 + weightOf(first) + weightOf(second) + weightOf(third));
-            write(parts, 3 * node, first);
-            write(parts, 3 * node + 1, second);
-            write(parts, 3 * node + 2, third);
+        int add(int kind, int name, int tailName, long number, int weight) {
+            int node = count;
+            row.put(node, kind, name, tailName, number);
+            write(row.sizes, node, weight);
+            count++;
             return node;
         }
     }
@@ -629,21 +633,17 @@ public final class SpinelessHall {
 
         private boolean writeNode(int at, int node, int scope) {
             int kind = nodes.row.kindAt(node);
+            int name = nodes.row.nameAt(node);
+            int tailName = nodes.row.tailNameAt(node);
             if (kind == A_VARIABLE) {
-                int variable = find(nodes.row.leftAt(node), scope);
-                row.put(at, kind, variable, 0, 0);
+                int variable = find(name, scope);
+                row.put(at, kind, variable, NONE, 0);
                 return variable != NONE;
             }
-            row.take(at, nodes.row, node);
-            int inner = scope;
-            if (nodes.row.isBinder(node)) {
-                write(row.lefts, at, 2 * at);
-                inner = bind(nodes.row.leftAt(node), 2 * at, inner);
-            }
-            if (kind == A_MATCH) {
-                write(row.rights, at, 2 * at + 1);
-                inner = bind(nodes.row.rightAt(node), 2 * at + 1, inner);
-            }
+            int variable = name == NONE ? NONE : 2 * at;
+            int tailVariable = tailName == NONE ? NONE : 2 * at + 1;
+            row.put(at, kind, variable, tailVariable, nodes.row.numberAt(node));
+            int inner = bind(tailName, tailVariable, bind(name, variable, scope));
             for (int part = read(PARTS, kind) - 1; part >= 0; part--) {
                 push(nodes.partOf(node, part), isScope(kind, part) ? inner : scope);
             }
@@ -668,6 +668,9 @@ public final class SpinelessHall {
         }
 
         private int bind(int name, int variable, int outer) {
+            if (name == NONE) {
+                return outer;
+            }
             int scope = scopeCount;
             write(names, scope, name);
             write(variables, scope, variable);
@@ -689,75 +692,69 @@ public final class SpinelessHall {
     }
 
     /** What a pass makes of one node. */
-    private static final class Draft {
-        private final Code row = new Code(MOST_SIZE);
+    private static final class Draft extends Code {
+        // May go beyond the room that there is: then the draft is not whole, and too long.
         private int length;
-        private boolean isTooLong;
         private int nextVariable;
 
+        Draft() {
+            super(MOST_SIZE);
+        }
+
         void beginCore() {
-            // The variables of a core have numbers below its size, or so much twice, if just defined.
-            nextVariable = 2 * MOST_SIZE;
+            // A core has fewer variables than this, numbered from 0.
+            nextVariable = MOST_SIZE;
+        }
+
+        boolean isTooLong() {
+            return length > MOST_SIZE;
         }
 
         void begin() {
             length = 0;
-            isTooLong = false;
-        }
-
-        void put(int kind, int left, int right, long number) {
-            if (length >= MOST_SIZE) {
-                isTooLong = true;
-                return;
-            }
-            row.put(length, kind, left, right, number);
-            length++;
         }
 
         /** The node alone, for its parts to follow. */
+        void add(int kind, int name, long number) {
+            put(length, kind, name, NONE, number);
+            length++;
+        }
+
         void copyNode(Code from, int node) {
-            put(from.kindAt(node), from.leftAt(node), from.rightAt(node), from.numberAt(node));
+            take(length, from, node);
+            length++;
         }
 
         void copy(Code from, int root) {
             int end = from.endOf(root);
             for (int node = root; node < end; node++) {
-                copyNode(from, node);
+                take(length, from, node);
+                length++;
             }
         }
 
-        /** A tree with variables of its own for those that it binds. */
-        void copyAnew(Code from, int root) {
-            int end = from.endOf(root);
-            int base = nextVariable;
-            for (int node = root; node < end; node++) {
-                if (from.isBinder(node)) {
-                    int fresh = base + 2 * (node - root);
-                    put(from.kindAt(node), fresh, fresh + 1, 0);
-                } else if (from.kindAt(node) == A_VARIABLE) {
-                    put(A_VARIABLE, anew(from, from.leftAt(node), root, base), 0, 0);
-                } else {
-                    copyNode(from, node);
+        /** What was put from a place on gets variables of its own for those that it binds. */
+        void freshen(int start) {
+            for (int node = start; node < length; node++) {
+                if (isBinder(node)) {
+                    rename(start, length, nameAt(node), nextVariable);
+                    nextVariable++;
+                }
+                if (tailNameAt(node) != NONE) {
+                    rename(start, length, tailNameAt(node), nextVariable);
+                    nextVariable++;
                 }
             }
-            nextVariable = base + 2 * (end - root);
-        }
-
-        private static int anew(Code from, int variable, int root, int base) {
-            int binder = from.binderOf(variable, root);
-            if (binder == NONE) {
-                return variable;
-            }
-            int fresh = base + 2 * (binder - root);
-            return from.leftAt(binder) == variable ? fresh : fresh + 1;
         }
 
         /** A tree with a value wherever a variable stands. */
         void copyWith(Code from, int root, int variable, int value) {
             int end = from.endOf(root);
             for (int node = root; node < end; node++) {
-                if (from.kindAt(node) == A_VARIABLE && from.leftAt(node) == variable) {
-                    copyAnew(from, value);
+                if (from.kindAt(node) == A_VARIABLE && from.nameAt(node) == variable) {
+                    int start = length;
+                    copy(from, value);
+                    freshen(start);
                 } else {
                     copyNode(from, node);
                 }
@@ -802,26 +799,12 @@ public final class SpinelessHall {
             return (phase * DEFINITIONS + outer) * DEFINITIONS + inner;
         }
 
-        /** Returns how many nodes it changed; NONE if one would be too large, and then all is as it was. */
-        int perform(int pass) {
+        void begin() {
             changed = 0;
-            if (pass == STRICT) {
-                demand.find();
-            }
-            for (int definition = 0; definition < DEFINITIONS; definition++) {
-                if (!goThrough(definition, pass)) {
-                    return NONE;
-                }
-            }
-            for (int definition = 0; definition < DEFINITIONS; definition++) {
-                if (now.sizeAt(rootOf(definition)) > 0) {
-                    now.takeTree(rootOf(definition), next, rootOf(definition));
-                }
-            }
-            return changed;
         }
 
-        private boolean goThrough(int definition, int pass) {
+        /** Makes the next core of a definition; returns false if one of its nodes would be too large. */
+        boolean goThrough(int definition, int pass) {
             int root = rootOf(definition);
             top = WORK_ROOM;
             draft.beginCore();
@@ -836,9 +819,10 @@ public final class SpinelessHall {
                 work.take(top, now, node);
                 work.measure(top);
                 draft.begin();
-                if (rewrite(top, pass, node - root)) {
+                boolean isChanged = pass == SIMPLIFY ? simplify(top) : rewrite(top, pass, node - root);
+                if (isChanged) {
                     changed++;
-                    if (draft.isTooLong) {
+                    if (draft.isTooLong()) {
                         return false;
                     }
                     replaceTop();
@@ -851,18 +835,27 @@ public final class SpinelessHall {
             return true;
         }
 
-        private void replaceTop() {
-            int end = work.endOf(top);
-            draft.row.measureAll(draft.length);
-            top = end - draft.length;
-            work.takeTree(top, draft.row, 0);
+        /** Makes the next cores those that count, when all have been gone through. */
+        int finish() {
+            for (int definition = 0; definition < DEFINITIONS; definition++) {
+                if (now.sizeAt(rootOf(definition)) > 0) {
+                    now.takeTree(rootOf(definition), next, rootOf(definition));
+                }
+            }
+            return changed;
         }
 
-        /** Drafts what is to stand in place of a node, if this pass changes it; returns whether it does. */
+        private void replaceTop() {
+            int end = work.endOf(top);
+            draft.measureAll(draft.length);
+            top = end - draft.length;
+            work.takeTree(top, draft, 0);
+        }
+
+        // These draft what is to stand in place of a node, and tell whether the pass changes it.
+
         private boolean rewrite(int node, int pass, int place) {
             switch (pass) {
-                case SIMPLIFY:
-                    return simplify(node);
                 case FLOAT_IN:
                     return floatIn(node);
                 case FLOAT_OUT:
@@ -896,13 +889,13 @@ public final class SpinelessHall {
         private boolean simplifyApply(int node) {
             int function = work.first(node);
             if (work.kindAt(function) == A_LAMBDA) {
-                draft.put(A_LET, work.leftAt(function), 0, 0);
+                draft.add(A_LET, work.nameAt(function), 0);
                 draft.copy(work, work.second(node));
                 draft.copy(work, work.first(function));
                 return true;
             }
             if (work.kindAt(function) == A_GLOBAL) {
-                return unfold(node, rootOf(work.leftAt(function)));
+                return unfold(node, rootOf((int) work.numberAt(function)));
             }
             return liftLet(node);
         }
@@ -912,7 +905,9 @@ public final class SpinelessHall {
                 return false;
             }
             draft.copyNode(work, node);
-            draft.copyAnew(now, root);
+            int start = draft.length;
+            draft.copy(now, root);
+            draft.freshen(start);
             draft.copy(work, work.second(node));
             return true;
         }
@@ -935,7 +930,7 @@ public final class SpinelessHall {
         }
 
         private boolean simplifyLet(int node) {
-            int variable = work.leftAt(node);
+            int variable = work.nameAt(node);
             int value = work.first(node);
             int body = work.second(node);
             int times = work.occurrences(variable, body);
@@ -964,9 +959,9 @@ public final class SpinelessHall {
                 return true;
             }
             if (work.kindAt(list) == A_CONS) {
-                draft.put(A_LET, work.leftAt(node), 0, 0);
+                draft.add(A_LET, work.nameAt(node), 0);
                 draft.copy(work, work.first(list));
-                draft.put(A_LET, work.rightAt(node), 0, 0);
+                draft.add(A_LET, work.tailNameAt(node), 0);
                 draft.copy(work, work.second(list));
                 draft.copy(work, work.third(node));
                 return true;
@@ -989,18 +984,18 @@ public final class SpinelessHall {
             if (work.kindAt(first) != A_NUMBER || work.kindAt(second) != A_NUMBER) {
                 return false;
             }
-            long result = compute(work.leftAt(node), work.numberAt(first), work.numberAt(second));
-            draft.put(A_NUMBER, 0, 0, result);
+            int sign = (int) work.numberAt(node);
+            draft.add(A_NUMBER, NONE, compute(sign, work.numberAt(first), work.numberAt(second)));
             return true;
         }
 
         private boolean floatIn(int node) {
             int choice = work.second(node);
-            int kind = work.kindAt(choice);
-            if (work.kindAt(node) != A_LET || kind != A_MATCH && kind != A_TEST) {
+            boolean isChoice = work.kindAt(choice) == A_MATCH || work.kindAt(choice) == A_TEST;
+            if (work.kindAt(node) != A_LET || !isChoice) {
                 return false;
             }
-            int variable = work.leftAt(node);
+            int variable = work.nameAt(node);
             boolean isInSecond = work.occurrences(variable, work.second(choice)) > 0;
             boolean isInThird = work.occurrences(variable, work.third(choice)) > 0;
             if (work.occurrences(variable, work.first(choice)) > 0 || isInSecond == isInThird) {
@@ -1030,7 +1025,7 @@ public final class SpinelessHall {
                 return false;
             }
             int value = work.first(let);
-            boolean isFree = work.occurrences(work.leftAt(node), value) == 0;
+            boolean isFree = work.occurrences(work.nameAt(node), value) == 0;
             if (!isFree || isAtom(value) || work.kindAt(value) == A_LAMBDA) {
                 return false;
             }
@@ -1058,12 +1053,13 @@ public final class SpinelessHall {
         // What is needed in a node is the same with a FORCE in place of a LET in it: so what was found
         // for the core ahead of the pass still holds.
         private boolean makeStrict(int node, int place) {
-            int body = place + 1 + work.sizeAt(work.first(node));
-            if (work.kindAt(node) != A_LET || !demand.isNeededIn(body, work.leftAt(node))) {
+            int value = work.first(node);
+            int placeOfBody = place + 1 + work.sizeAt(value);
+            if (work.kindAt(node) != A_LET || !demand.isNeededIn(placeOfBody, work.nameAt(node))) {
                 return false;
             }
-            draft.put(A_FORCE, work.leftAt(node), 0, 0);
-            draft.copy(work, work.first(node));
+            draft.add(A_FORCE, work.nameAt(node), 0);
+            draft.copy(work, value);
             draft.copy(work, work.second(node));
             return true;
         }
@@ -1078,11 +1074,11 @@ public final class SpinelessHall {
             if (work.kindAt(argument) != AN_APPLY || work.kindAt(inner) != A_GLOBAL) {
                 return false;
             }
-            int key = ruleKey(phase, work.leftAt(outer), work.leftAt(inner));
+            int key = ruleKey(phase, (int) work.numberAt(outer), (int) work.numberAt(inner));
             for (int i = 0; i < ruleCount; i++) {
                 if (read(rules, i) / DEFINITIONS == key) {
                     draft.copyNode(work, node);
-                    draft.put(A_GLOBAL, read(rules, i) % DEFINITIONS, 0, 0);
+                    draft.add(A_GLOBAL, NONE, read(rules, i) % DEFINITIONS);
                     draft.copy(work, work.second(argument));
                     return true;
                 }
@@ -1163,7 +1159,7 @@ public final class SpinelessHall {
         private void findIn(int node) {
             switch (now.kindAt(node)) {
                 case A_VARIABLE:
-                    addVariable(node, now.leftAt(node));
+                    addVariable(node, now.nameAt(node));
                     break;
                 case AN_APPLY:
                     addAll(node, now.first(node));
@@ -1171,7 +1167,7 @@ public final class SpinelessHall {
                     break;
                 case A_LET:
                     addAll(node, now.second(node));
-                    if (isNeededIn(now.second(node) - root, now.leftAt(node))) {
+                    if (isNeededIn(now.second(node) - root, now.nameAt(node))) {
                         addAll(node, now.first(node));
                     }
                     break;
@@ -1206,7 +1202,7 @@ public final class SpinelessHall {
             if (now.kindAt(function) != A_GLOBAL) {
                 return;
             }
-            int called = now.leftAt(function);
+            int called = (int) now.numberAt(function);
             if (arguments < now.parametersAt(rootOf(called))) {
                 return;
             }
@@ -1225,7 +1221,10 @@ public final class SpinelessHall {
         }
 
         private void addAll(int node, int part) {
-            addCommon(node, part, part);
+            for (int word = 0; word < WORDS; word++) {
+                int to = (node - root) * WORDS + word;
+                writeLong(sets, to, readLong(sets, to) | readLong(sets, (part - root) * WORDS + word));
+            }
         }
 
         private void addCommon(int node, int first, int second) {
@@ -1512,17 +1511,17 @@ public final class SpinelessHall {
                     give(A_CONS, head, cellFor(program.second(at), scope), 0);
                     break;
                 case A_VARIABLE:
-                    enter(store.find(program.leftAt(at), scope));
+                    enter(store.find(program.nameAt(at), scope));
                     break;
                 case A_GLOBAL:
-                    enter(program.leftAt(at));
+                    enter((int) program.numberAt(at));
                     break;
                 case A_LET:
                 case A_LETREC:
                     evaluateLet(at);
                     break;
                 case A_CENTRE:
-                    write(entered, program.leftAt(at), read(entered, program.leftAt(at)) + 1);
+                    write(entered, (int) program.numberAt(at), read(entered, (int) program.numberAt(at)) + 1);
                     evaluateNext(program.first(at), scope);
                     break;
                 default:
@@ -1534,7 +1533,7 @@ public final class SpinelessHall {
 
         private void evaluateLet(int let) {
             int cell = store.makeWaiting(program.first(let), scope);
-            int inner = store.bind(program.leftAt(let), cell, scope);
+            int inner = store.bind(program.nameAt(let), cell, scope);
             if (program.kindAt(let) == A_LETREC) {
                 store.setScope(cell, inner);
             }
@@ -1554,7 +1553,7 @@ public final class SpinelessHall {
 
         private int cellFor(int part, int partScope) {
             if (program.kindAt(part) == A_VARIABLE) {
-                return store.find(program.leftAt(part), partScope);
+                return store.find(program.nameAt(part), partScope);
             }
             return store.makeWaiting(part, partScope);
         }
@@ -1591,7 +1590,7 @@ public final class SpinelessHall {
                     call(place, outer);
                     break;
                 case A_FORCE:
-                    int inner = store.bind(program.leftAt(place), store.makeOfFound(), outer);
+                    int inner = store.bind(program.nameAt(place), store.makeOfFound(), outer);
                     evaluateNext(program.second(place), inner);
                     break;
                 case A_PRIMITIVE:
@@ -1617,7 +1616,7 @@ public final class SpinelessHall {
             int lambda = store.firstOf(Store.FOUND);
             int outer = store.secondOf(Store.FOUND);
             int cell = cellFor(program.second(apply), applyScope);
-            evaluateNext(program.first(lambda), store.bind(program.leftAt(lambda), cell, outer));
+            evaluateNext(program.first(lambda), store.bind(program.nameAt(lambda), cell, outer));
         }
 
         // The first part may be no number: it is kept what it was, for the second comes ahead of STUCK.
@@ -1631,7 +1630,8 @@ public final class SpinelessHall {
                 outcome = STUCK;
                 return;
             }
-            give(A_NUMBER, 0, 0, compute(program.leftAt(primitive), first, store.numberOf(Store.FOUND)));
+            int sign = (int) program.numberAt(primitive);
+            give(A_NUMBER, 0, 0, compute(sign, first, store.numberOf(Store.FOUND)));
         }
 
         private void choose(int match, int outer) {
@@ -1639,8 +1639,8 @@ public final class SpinelessHall {
             if (kind == A_NIL) {
                 evaluateNext(program.second(match), outer);
             } else if (kind == A_CONS) {
-                int headScope = store.bind(program.leftAt(match), store.firstOf(Store.FOUND), outer);
-                int inner = store.bind(program.rightAt(match), store.secondOf(Store.FOUND), headScope);
+                int headScope = store.bind(program.nameAt(match), store.firstOf(Store.FOUND), outer);
+                int inner = store.bind(program.tailNameAt(match), store.secondOf(Store.FOUND), headScope);
                 evaluateNext(program.third(match), inner);
             } else {
                 outcome = STUCK;
@@ -1715,9 +1715,9 @@ public final class SpinelessHall {
             int end = program.endOf(root);
             for (int node = root; node < end; node++) {
                 if (program.kindAt(node) == A_VARIABLE) {
-                    add(store.find(program.leftAt(node), scope));
+                    add(store.find(program.nameAt(node), scope));
                 } else if (program.kindAt(node) == A_GLOBAL) {
-                    add(program.leftAt(node));
+                    add((int) program.numberAt(node));
                 }
             }
         }
