@@ -120,6 +120,7 @@ public final class PassesTest {
         leaves("(4) not of NIL, twice", SIMPLIFY, h.let(0, nil, h.cons(x, x), false));
         makes("(5)", SIMPLIFY, 1, h.let(0, pair, h.cons(one, x), false), h.cons(one, pair));
         leaves("(5) not within a LAMBDA", SIMPLIFY, h.let(0, pair, h.lambda(1, h.cons(x, y)), false));
+        makes("(5) beside a LAMBDA", SIMPLIFY, 1, h.let(0, pair, h.cons(x, identity), false), h.cons(pair, identity));
         leaves("(5) not twice", SIMPLIFY, h.let(0, pair, h.cons(x, x), false));
         int six = h.lambda(1, h.cons(y, h.cons(y, y)));
         makes("(6) of a size of 6", SIMPLIFY, 1, h.let(0, six, h.cons(x, h.lambda(1, x)), false),
@@ -129,6 +130,18 @@ public final class PassesTest {
         int free = h.lambda(1, h.let(0, h.lambda(2, y), h.cons(x, h.lambda(1, x)), false));
         makes("(6) keeps what names are bound to", SIMPLIFY, 1, free,
                 h.lambda(1, h.cons(h.lambda(2, y), h.lambda(0, h.lambda(2, y)))));
+    }
+
+    private void copiedMatches() {
+        int six = h.lambda(2, h.match(z, nil, 1, h.centre(0, y)));
+        makes("(6) of a MATCH, twice", SIMPLIFY, 1, h.let(0, six, h.cons(x, x), false), h.cons(six, six));
+        int again = h.let(0, h.let(0, six, h.cons(x, x), false), h.cons(x, x), false);
+        makes("once in the value", SIMPLIFY, 1, again, h.let(0, h.cons(six, six), h.cons(x, x), false));
+        int two = h.let(3, six, h.let(0, h.lambda(1, h.variable(3)), h.cons(x, x), false), false);
+        makes("copies of copies", SIMPLIFY, 2, two, h.cons(h.lambda(1, six), h.lambda(1, six)));
+        h.define(7, six);
+        makes("(11) of a MATCH, twice", SIMPLIFY, 2, h.cons(h.apply(other, one), h.apply(other, one)),
+                h.cons(h.apply(six, one), h.apply(six, one)));
     }
 
     private void matches() {
@@ -257,6 +270,10 @@ public final class PassesTest {
         leaves("a phase without", 7, node);
         leaves("the other way round", 5, call(3, call(2, pair)));
         leaves("a GLOBAL of a GLOBAL", 5, h.apply(h.global(2), h.global(3)));
+        leaves("a CONS of such ones", 5, h.cons(h.global(2), call(3, one)));
+        leaves("of a number like its own", 5, h.apply(two, call(3, one)));
+        leaves("to a CONS with one", 5, call(2, h.cons(h.global(3), one)));
+        leaves("to a number like its own", 5, call(2, h.apply(h.number(3), one)));
         leaves("of two arguments", 5, h.apply(h.apply(h.global(2), h.global(3)), one));
         makes("what is made of the inner one", 5, 1, call(5, call(2, call(3, one))), call(5, call(5, one)));
         makes("what is made is an inner one", 6, 1, call(2, call(2, call(3, one))), call(2, call(4, one)));
@@ -314,6 +331,7 @@ public final class PassesTest {
         new PassesTest().globals();
         new PassesTest().coresAsTheyWere();
         new PassesTest().lets();
+        new PassesTest().copiedMatches();
         new PassesTest().matches();
         new PassesTest().primitives();
         new PassesTest().floatsIn();

@@ -763,12 +763,14 @@ public final class SpinelessHall {
     }
 
     /**
-     * Goes through the cores. A core is read from its end, so that a node comes when its parts are done;
-     * that this takes the parts from the right can't be seen, as none of them knows of another.
+     * Goes through the cores. A core is read from its end, so that a node comes when its parts are done, and
+     * these stand behind it. The parts are thus taken from the right, which can't be seen: what is done to a
+     * node does not depend on what stands beside it.
      */
     private static final class Passes {
-        // Of parts that wait for what is to their left, only those of three nodes or more can have grown:
-        // at most 50 of them, up to 150 nodes each, and behind them no more than 150 nodes.
+        // What waits here are trees made of parts of one core that have no node in common. Only a part of
+        // three nodes or more can have grown: so these are 50 trees of 150 nodes at most, and all others
+        // together have fewer nodes than a core.
         private static final int WORK_ROOM = 8192;
 
         private static final int SMALL_LAMBDA = 6;
