@@ -3,8 +3,8 @@ import java.lang.management.ManagementFactory;
 
 /** All calls of one object fit in the room that one run has, and no call takes long. */
 public final class RoomTest {
-    // 7.3 million fields and elements, were they all of the shortest kind that the class holds.
-    private static final long ROOM = 7_300_000L * 4;
+    // 600,000 objects and arrays, and 7.3 million fields and elements, in bytes.
+    private static final long ROOM = 600_000L * 16 + 7_300_000L * 8;
 
     private static long taken() {
         ThreadMXBean threads = (ThreadMXBean) ManagementFactory.getThreadMXBean();

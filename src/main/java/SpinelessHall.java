@@ -1462,7 +1462,6 @@ public final class SpinelessHall {
             frames.depth = 0;
             show.begin();
             steps = 0;
-            limit = 0;
             enter(definition);
         }
 
