@@ -33,7 +33,7 @@ final class Doc {
         for (String line : Files.readString(FILE).split("\n")) {
             if (line.startsWith("#")) {
                 heading = line.replaceFirst("^#+ ", "").replaceFirst(":.*", "");
-            } else if (isToBeSaid(heading)) {
+            } else if (isToBeSaid(heading) || line.startsWith("An object is used for at most")) {
                 addLine(heading, line.replaceFirst("^- ", "").replace("`", "").trim());
             }
         }

@@ -293,6 +293,20 @@ final class RunEdges {
         hall.goOn(1000, TOO_FAR).goOn(999, TOO_FAR).goOn(1000, NUMBER).prints("440").steps(7 + 440 * 9);
     }
 
+    /** 511 calls, most of them as long as a call can be, and one more. */
+    private static void calls512() {
+        Doc.says("What it is", "An object is used for at most 512 calls after it has been made; what later calls answer"
+                + " is free.");
+        SpinelessHall h = new Hall().is(0, "(@ G1 1)").is(1, "(\\ x (c0 (let y (: x 1) (@ G1 y))))").hall;
+        // These were 10 for the nodes, and for each definition it and two that ask of it.
+        for (int calls = 10 + 6; calls < 511; calls += 3) {
+            Check.gives(Doc.sentence(), TOO_FAR, () -> h.run(0, 1000, true));
+            Check.gives(Doc.sentence(), TOO_FAR, () -> h.goOn(1000));
+            Check.gives(Doc.sentence(), TOO_FAR, () -> h.goOn(999));
+        }
+        Check.gives(Doc.sentence() + " | the last one", 2999 / 4, () -> h.entered(0));
+    }
+
     static void all() {
         run();
         goOn();
@@ -304,5 +318,6 @@ final class RunEdges {
         liveThroughDefinitions();
         long3999();
         deep();
+        calls512();
     }
 }
