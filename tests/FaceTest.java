@@ -9,20 +9,49 @@ import java.util.List;
 
 /** The public face: its constants, its constructor, its methods, and nothing else. */
 public final class FaceTest {
-    private static final String[] DUE = {
+    private static final String[] CONSTANTS = {
         "NONE=-1", "NUMBER=0", "FUNCTION=1", "LIST=2", "STUCK=3", "LOOP=4", "TOO_FAR=5",
         "SIMPLIFY=0", "FLOAT_IN=1", "FLOAT_OUT=2", "ARITY=3", "STRICT=4",
-        "int number(long)", "int variable(int)", "int global(int)", "int lambda(int,int)", "int apply(int,int)",
-        "int let(int,int,int,boolean)", "int primitive(int,int,int)", "int nil()", "int cons(int,int)",
-        "int match(int,int,int,int)", "int test(int,int,int)", "int centre(int,int)", "int define(int,int)",
-        "int rule(int,int,int,int)", "int pass(int)", "int reset()", "int size(int)", "long core(int)",
-        "int parameters(int)", "boolean needs(int,int)", "boolean isAbsent(int,int)",
-        "int run(int,int,boolean)", "int goOn(int)", "long print()", "int steps()", "int cellsMade()",
-        "int entered(int)", "int live()",
+    };
+    // Index, Argument and State stand for IndexOutOfBoundsException and Illegal..Exception; their order tells which
+    // one is thrown if several apply.
+    private static final String[] METHODS = {
+        "int number(long) throws State",
+        "int variable(int) throws Argument State",
+        "int global(int) throws Argument State",
+        "int lambda(int,int) throws Index Argument State",
+        "int apply(int,int) throws Index State",
+        "int let(int,int,int,boolean) throws Index Argument State",
+        "int primitive(int,int,int) throws Index Argument State",
+        "int nil() throws State",
+        "int cons(int,int) throws Index State",
+        "int match(int,int,int,int) throws Index Argument State",
+        "int test(int,int,int) throws Index State",
+        "int centre(int,int) throws Index Argument State",
+        "int define(int,int) throws Index Argument State",
+        "int rule(int,int,int,int) throws Argument State",
+        "int pass(int) throws Argument State",
+        "int reset()",
+        "int size(int) throws Index",
+        "long core(int) throws Index",
+        "int parameters(int) throws Index",
+        "boolean needs(int,int) throws Index",
+        "boolean isAbsent(int,int) throws Index",
+        "int run(int,int,boolean) throws Index Argument",
+        "int goOn(int) throws Argument State",
+        "long print() throws State",
+        "int steps()",
+        "int cellsMade()",
+        "int entered(int) throws Argument",
+        "int live() throws State",
     };
 
     private static boolean isSeen(Member member) {
         return !Modifier.isPrivate(member.getModifiers()) && !member.isSynthetic();
+    }
+
+    private static String shortName(String exception) {
+        return exception.replaceAll("^Illegal|OutOfBounds|Exception$", "");
     }
 
     private static String text(Method method) {
@@ -31,7 +60,13 @@ public final class FaceTest {
         for (int i = 0; i < method.getParameterCount(); i++) {
             text.append(i == 0 ? "" : ",").append(method.getParameterTypes()[i].getName());
         }
-        return text.append(')').toString();
+        text.append(')');
+        String behind = " throws ";
+        for (Class<?> thrown : method.getExceptionTypes()) {
+            text.append(behind).append(shortName(thrown.getSimpleName()));
+            behind = " ";
+        }
+        return text.toString();
     }
 
     public static void main(String[] args) throws IllegalAccessException {
@@ -53,7 +88,8 @@ public final class FaceTest {
         for (Constructor<?> constructor : type.getDeclaredConstructors()) {
             Check.same("the constructor", constructor.toString(), "public SpinelessHall()");
         }
-        List<String> due = new ArrayList<>(List.of(DUE));
+        List<String> due = new ArrayList<>(List.of(CONSTANTS));
+        due.addAll(List.of(METHODS));
         Collections.sort(got);
         Collections.sort(due);
         Check.same("the face", got, due);
